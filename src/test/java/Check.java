@@ -1,5 +1,6 @@
 import java.util.NoSuchElementException;
 import java.util.function.LongSupplier;
+import java.util.function.ToLongFunction;
 
 /** Counts the answers that are not as due, and ends the test with exit code 1 if there is one. */
 final class Check {
@@ -32,6 +33,27 @@ final class Check {
                 fail(call + " threw " + e.getClass());
             }
         }
+    }
+
+    void same(String call, String got, String want) {
+        asked++;
+        if (!got.equals(want)) {
+            fail(call + " told\n" + got + "\ndue is\n" + want);
+        }
+    }
+
+    /** The call on a sample answers so, and leaves all else as it was. */
+    void refused(String call, long want, ToLongFunction<MiddleAlgebras> asks) {
+        MiddleAlgebras x = Sample.made();
+        due(call, asks.applyAsLong(x), want);
+        same(call + ": all else", Sample.told(x), Sample.TOLD);
+    }
+
+    /** The call on a sample throws a NoSuchElementException, and leaves all as it was. */
+    void refusedByThrow(String call, ToLongFunction<MiddleAlgebras> asks) {
+        MiddleAlgebras x = Sample.made();
+        none(call, () -> asks.applyAsLong(x));
+        same(call + ": all else", Sample.told(x), Sample.TOLD);
     }
 
     void fail(String what) {
@@ -79,6 +101,20 @@ final class Check {
 
     static MiddleAlgebras quaternion(int a, int b) {
         return of("quaternion h " + a + " " + b + ";");
+    }
+
+    /** What text() answers for a FAULT. */
+    static int fault(int place, int kind) {
+        return -2 - (8 * place + kind);
+    }
+
+    static boolean isPrime(int n) {
+        for (int by = 2; by * by <= n; by++) {
+            if (n % by == 0) {
+                return false;
+            }
+        }
+        return n > 1;
     }
 
     static boolean isSquareFree(int n) {

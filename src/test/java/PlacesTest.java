@@ -25,7 +25,7 @@ public final class PlacesTest {
                 check.due("local at 0 of " + of, x.local(0, 0), a < 0 && b < 0 ? 3 : 0);
                 int together = x.local(0, 0);
                 for (int p = 2; p < 67; p++) {
-                    if (isPrime(p)) {
+                    if (Check.isPrime(p)) {
                         boolean solved = (2 * a * b) % p != 0 || (p == 2 ? hasSolutionAtTwo(a, b) : hasSolution(a, b, p));
                         check.due("local at " + p + " of " + of, x.local(0, p), solved ? 0 : 3);
                         together += x.local(0, p);
@@ -187,14 +187,5 @@ public final class PlacesTest {
         Check.text(x, "quaternion h -1 -1;");
         check.due("classes() of one", x.classes(), 1);
         check.due("alike(0, 1)", x.alike(0, 1), -1);
-    }
-
-    private static boolean isPrime(int n) {
-        for (int by = 2; by < n; by++) {
-            if (n % by == 0) {
-                return false;
-            }
-        }
-        return n > 1;
     }
 }

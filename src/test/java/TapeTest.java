@@ -85,7 +85,7 @@ public final class TapeTest {
         due("quaternion h - 1 - 1 ;", 1);
         due("quaternion h1 2;", 1);
         due("quaternion h 007 0000000000003;", 1);
-        due("quaternion h 60 2;", fault(13, 4));
+        due("quaternion h 60 2;", Check.fault(13, 4));
         due("quaternion h 59 -59;quaternion i -58 57;", 2);
         due("cyclic c 7 2;cyclic d 13 999;cyclic e 19 -999;cyclic f 31 4;cyclic g 37 -8;cyclic h 43 1;", 6);
         due("quaternion a 1 1;sum b +a+a;sum c -b-a+b-a;sum d +c-c;", 4);
@@ -96,91 +96,91 @@ public final class TapeTest {
     }
 
     private static void unfitTokens() {
-        due("", fault(0, 1));
-        due("   \n ", fault(5, 1));
-        due(";", fault(0, 1));
-        due("h 2 3;", fault(0, 1));
-        due("Quaternion h 2 3;", fault(0, 1));
-        due("quaternion", fault(10, 1));
-        due("quaternion  ", fault(12, 1));
-        due("quaternion 2 3;", fault(11, 1));
-        due("quaternion sum 2 3;", fault(11, 1));
-        due("quaternion cyclic 2 3;", fault(11, 1));
-        due("quaternion quaternion 2 3;", fault(11, 1));
-        due("quaternion abcdefghijk 2 3;", fault(11, 1));
-        due("quaternions h 2 3;", fault(0, 1));
-        due("quaternion h 2;", fault(14, 1));
-        due("quaternion h + 2 3;", fault(13, 1));
-        due("quaternion h --2 3;", fault(14, 1));
-        due("quaternion h 2 - ;", fault(17, 1));
-        due("quaternion h 2 3", fault(16, 1));
-        due("quaternion h 2 3 4;", fault(17, 1));
-        due("quaternion h 2 3;;", fault(17, 1));
-        due("quaternion h 2 3; x", fault(18, 1));
-        due("quaternion h\t2 3;", fault(12, 1));
-        due("quaternion h 2,3;", fault(14, 1));
-        due("quaternion h 2 3;\r", fault(17, 1));
-        due("quaternion h 2 \u00e93;", fault(15, 1));
-        due("quaternion h\u0000 2 3;", fault(12, 1));
-        due("quaternion h\u0080 2 3;", fault(12, 1));
-        due("quaternion h\u00ff 2 3;", fault(12, 1));
-        due("quaternion hA 2 3;", fault(12, 1));
-        due("quaternion h`2 3;", fault(12, 1));
-        due("quaternion h{2 3;", fault(12, 1));
-        due("quaternion h/2 3;", fault(12, 1));
-        due("quaternion h:2 3;", fault(12, 1));
-        due("cyclic c -7 2;", fault(9, 1));
-        due("cyclic c 7;", fault(10, 1));
-        due("cyclic c 7 +2;", fault(11, 1));
-        due("sum s;", fault(5, 1));
-        due("quaternion a 1 1;sum s a;", fault(23, 1));
-        due("quaternion a 1 1;sum s +;", fault(24, 1));
-        due("quaternion a 1 1;sum s +a a;", fault(26, 1));
-        due("quaternion a 1 1;sum s +sum;", fault(24, 1));
-        due("quaternion a 1 1;sum s +cyclic;", fault(24, 1));
-        due("quaternion a 1 1;sum s +2;", fault(24, 1));
-        due("quaternion a 1 1;sum s +-a;", fault(24, 1));
-        due("quaternion a 1 1;sum s +abcdefghijk;", fault(24, 1));
+        due("", Check.fault(0, 1));
+        due("   \n ", Check.fault(5, 1));
+        due(";", Check.fault(0, 1));
+        due("h 2 3;", Check.fault(0, 1));
+        due("Quaternion h 2 3;", Check.fault(0, 1));
+        due("quaternion", Check.fault(10, 1));
+        due("quaternion  ", Check.fault(12, 1));
+        due("quaternion 2 3;", Check.fault(11, 1));
+        due("quaternion sum 2 3;", Check.fault(11, 1));
+        due("quaternion cyclic 2 3;", Check.fault(11, 1));
+        due("quaternion quaternion 2 3;", Check.fault(11, 1));
+        due("quaternion abcdefghijk 2 3;", Check.fault(11, 1));
+        due("quaternions h 2 3;", Check.fault(0, 1));
+        due("quaternion h 2;", Check.fault(14, 1));
+        due("quaternion h + 2 3;", Check.fault(13, 1));
+        due("quaternion h --2 3;", Check.fault(14, 1));
+        due("quaternion h 2 - ;", Check.fault(17, 1));
+        due("quaternion h 2 3", Check.fault(16, 1));
+        due("quaternion h 2 3 4;", Check.fault(17, 1));
+        due("quaternion h 2 3;;", Check.fault(17, 1));
+        due("quaternion h 2 3; x", Check.fault(18, 1));
+        due("quaternion h\t2 3;", Check.fault(12, 1));
+        due("quaternion h 2,3;", Check.fault(14, 1));
+        due("quaternion h 2 3;\r", Check.fault(17, 1));
+        due("quaternion h 2 \u00e93;", Check.fault(15, 1));
+        due("quaternion h\u0000 2 3;", Check.fault(12, 1));
+        due("quaternion h\u0080 2 3;", Check.fault(12, 1));
+        due("quaternion h\u00ff 2 3;", Check.fault(12, 1));
+        due("quaternion hA 2 3;", Check.fault(12, 1));
+        due("quaternion h`2 3;", Check.fault(12, 1));
+        due("quaternion h{2 3;", Check.fault(12, 1));
+        due("quaternion h/2 3;", Check.fault(12, 1));
+        due("quaternion h:2 3;", Check.fault(12, 1));
+        due("cyclic c -7 2;", Check.fault(9, 1));
+        due("cyclic c 7;", Check.fault(10, 1));
+        due("cyclic c 7 +2;", Check.fault(11, 1));
+        due("sum s;", Check.fault(5, 1));
+        due("quaternion a 1 1;sum s a;", Check.fault(23, 1));
+        due("quaternion a 1 1;sum s +;", Check.fault(24, 1));
+        due("quaternion a 1 1;sum s +a a;", Check.fault(26, 1));
+        due("quaternion a 1 1;sum s +sum;", Check.fault(24, 1));
+        due("quaternion a 1 1;sum s +cyclic;", Check.fault(24, 1));
+        due("quaternion a 1 1;sum s +2;", Check.fault(24, 1));
+        due("quaternion a 1 1;sum s +-a;", Check.fault(24, 1));
+        due("quaternion a 1 1;sum s +abcdefghijk;", Check.fault(24, 1));
     }
 
     private static void names() {
-        due("quaternion a 1 1;quaternion a 1 1;", fault(28, 2));
-        due("quaternion a 1 1;cyclic a 7 1;", fault(24, 2));
-        due("quaternion a 1 1;sum a +a;", fault(21, 2));
-        due("quaternion a 1 1;quaternion aa 1 1;quaternion b 1 1;quaternion aa 1 1;", fault(63, 2));
+        due("quaternion a 1 1;quaternion a 1 1;", Check.fault(28, 2));
+        due("quaternion a 1 1;cyclic a 7 1;", Check.fault(24, 2));
+        due("quaternion a 1 1;sum a +a;", Check.fault(21, 2));
+        due("quaternion a 1 1;quaternion aa 1 1;quaternion b 1 1;quaternion aa 1 1;", Check.fault(63, 2));
         due("quaternion abcdefghij 1 1;quaternion abcdefghik 1 1;", 2);
-        due("sum s +a;", fault(7, 3));
-        due("sum s +s;", fault(7, 3));
-        due("sum s +a;quaternion a 1 1;", fault(7, 3));
-        due("quaternion a 1 1;sum s +a-b;", fault(26, 3));
-        due("quaternion a 1 1;sum s +aa;", fault(24, 3));
+        due("sum s +a;", Check.fault(7, 3));
+        due("sum s +s;", Check.fault(7, 3));
+        due("sum s +a;quaternion a 1 1;", Check.fault(7, 3));
+        due("quaternion a 1 1;sum s +a-b;", Check.fault(26, 3));
+        due("quaternion a 1 1;sum s +aa;", Check.fault(24, 3));
     }
 
     private static void numbers() {
-        due("quaternion h 0 3;", fault(13, 4));
-        due("quaternion h -0 3;", fault(14, 4));
-        due("quaternion h 2 00;", fault(15, 4));
-        due("quaternion h 61 3;", fault(13, 4));
-        due("quaternion h - 61 3;", fault(15, 4));
-        due("quaternion h 4 3;", fault(13, 4));
-        due("quaternion h 2 -49;", fault(16, 4));
-        due("quaternion h 99999999999999999999999 1;", fault(13, 4));
-        due("quaternion h 4294967297 1;", fault(13, 4));
-        due("quaternion h 18446744073709551617 1;", fault(13, 4));
+        due("quaternion h 0 3;", Check.fault(13, 4));
+        due("quaternion h -0 3;", Check.fault(14, 4));
+        due("quaternion h 2 00;", Check.fault(15, 4));
+        due("quaternion h 61 3;", Check.fault(13, 4));
+        due("quaternion h - 61 3;", Check.fault(15, 4));
+        due("quaternion h 4 3;", Check.fault(13, 4));
+        due("quaternion h 2 -49;", Check.fault(16, 4));
+        due("quaternion h 99999999999999999999999 1;", Check.fault(13, 4));
+        due("quaternion h 4294967297 1;", Check.fault(13, 4));
+        due("quaternion h 18446744073709551617 1;", Check.fault(13, 4));
         for (int n = 1; n <= 70; n++) {
             boolean fits = n <= 60 && Check.isSquareFree(n);
-            due("quaternion h " + n + " 1;", fits ? 1 : fault(13, 4));
-            due("quaternion h 1 -" + n + ";", fits ? 1 : fault(16, 4));
+            due("quaternion h " + n + " 1;", fits ? 1 : Check.fault(13, 4));
+            due("quaternion h 1 -" + n + ";", fits ? 1 : Check.fault(16, 4));
             boolean field = n == 7 || n == 13 || n == 19 || n == 31 || n == 37 || n == 43;
-            due("cyclic c " + n + " 1;", field ? 1 : fault(9, 4));
+            due("cyclic c " + n + " 1;", field ? 1 : Check.fault(9, 4));
         }
-        due("cyclic c 0 1;", fault(9, 4));
-        due("cyclic c 4294967303 1;", fault(9, 4));
-        due("cyclic c 7 0;", fault(11, 4));
+        due("cyclic c 0 1;", Check.fault(9, 4));
+        due("cyclic c 4294967303 1;", Check.fault(9, 4));
+        due("cyclic c 7 0;", Check.fault(11, 4));
         due("cyclic c 7 999;", 1);
         due("cyclic c 7 -999;", 1);
-        due("cyclic c 7 1000;", fault(11, 4));
-        due("cyclic c 7 - 1000;", fault(13, 4));
+        due("cyclic c 7 1000;", Check.fault(11, 4));
+        due("cyclic c 7 - 1000;", Check.fault(13, 4));
         due("cyclic c 7 900;", 1);
     }
 
@@ -189,33 +189,33 @@ public final class TapeTest {
                 + "quaternion e 1 1;quaternion f 1 1;quaternion g 1 1;quaternion h 1 1; ";
         int at = eight.length();
         due(eight, 8);
-        due(eight + "quaternion i 1 1;", fault(at, 5));
-        due(eight + "cyclic", fault(at, 5));
-        due(eight + "sum a", fault(at, 5));
-        due(eight + "suma", fault(at, 1));
-        due(eight + "+", fault(at, 1));
-        due(eight + "*", fault(at, 1));
+        due(eight + "quaternion i 1 1;", Check.fault(at, 5));
+        due(eight + "cyclic", Check.fault(at, 5));
+        due(eight + "sum a", Check.fault(at, 5));
+        due(eight + "suma", Check.fault(at, 1));
+        due(eight + "+", Check.fault(at, 1));
+        due(eight + "*", Check.fault(at, 1));
         due("quaternion a 1 1;sum s +a-a+a-a;", 2);
-        due("quaternion a 1 1;sum s +a-a+a-a+a;", fault(31, 5));
-        due("quaternion a 1 1;sum s +a-a+a-a-", fault(31, 5));
-        due("quaternion a 1 1;sum s +a-a+a-a 7", fault(32, 1));
+        due("quaternion a 1 1;sum s +a-a+a-a+a;", Check.fault(31, 5));
+        due("quaternion a 1 1;sum s +a-a+a-a-", Check.fault(31, 5));
+        due("quaternion a 1 1;sum s +a-a+a-a 7", Check.fault(32, 1));
     }
 
     private static void leastPlaceCounts() {
-        due("quaternion h 0 3; \u0001", fault(13, 4));
-        due("quaternion h 2 0 \u0001", fault(15, 4));
-        due("quaternion \u0001 0", fault(11, 1));
-        due("sum s +a-b+", fault(7, 3));
-        due("quaternion a 1 1;quaternion a 0 0;", fault(28, 2));
-        due("cyclic c 8 0;", fault(9, 4));
+        due("quaternion h 0 3; \u0001", Check.fault(13, 4));
+        due("quaternion h 2 0 \u0001", Check.fault(15, 4));
+        due("quaternion \u0001 0", Check.fault(11, 1));
+        due("sum s +a-b+", Check.fault(7, 3));
+        due("quaternion a 1 1;quaternion a 0 0;", Check.fault(28, 2));
+        due("cyclic c 8 0;", Check.fault(9, 4));
     }
 
     private static void faultLeavesAllElse() {
         MiddleAlgebras x = Check.of("quaternion h -1 -1;cyclic c 7 2;");
         x.tell(3, 0, 1, 2, 3, 4);
         x.greatest(0);
-        check.due("a fault", Check.text(x, "quaternion k 2 3;sum s +u;"), fault(24, 3));
-        check.due("a fault", Check.text(x, "cyclic k 19 3;cyclic l 13 3;cyclic m 13 4;cyclic"), fault(48, 1));
+        check.due("a fault", Check.text(x, "quaternion k 2 3;sum s +u;"), Check.fault(24, 3));
+        check.due("a fault", Check.text(x, "cyclic k 19 3;cyclic l 13 3;cyclic m 13 4;cyclic"), Check.fault(48, 1));
         check.due("count(0)", x.count(0), 2);
         check.due("count(1)", x.count(1), 8);
         check.due("count(2)", x.count(2), 0);
@@ -267,10 +267,6 @@ public final class TapeTest {
         check.due("count(2)", x.count(2), 20);
         check.due("count(3)", x.count(3), -1);
         check.due("count(-1)", x.count(-1), -1);
-    }
-
-    private static long fault(int place, int kind) {
-        return -2 - (8 * place + kind);
     }
 
     /** What a new object answers to the text. */
