@@ -298,14 +298,16 @@ public final class PlacesBoundsTest {
         check.due("eight alike", Check.of(EIGHT_ALIKE.replace("-a+d", "-a").replace("cyclic d 7 1", "sum d -a")).classes(), 1);
     }
 
-    // Of a TEXT that is read behind another one all is as of the first of a new object.
+    // Of a TEXT that is read behind others all is as of the first of a new object.
     private static void earlierTextLeavesNothing() {
         String[] texts = {"quaternion a -1 -1;", "quaternion a 1 1;", "cyclic a 7 1;", "cyclic a 7 2;", "cyclic a 43 -994;", EIGHT_ALIKE,
             "cyclic a 43 570;cyclic b 37 770;cyclic c 31 546;cyclic d 19 935;quaternion e -29 -42;sum f +a+b+c+d;sum g +f+e;",
-            "quaternion a 3 5;cyclic b 13 997;sum c +a-b;", "quaternion a -59 -58;sum b -a;", "cyclic a 31 2;quaternion b 2 7;sum c +a+b;"};
+            "quaternion a 3 5;cyclic b 13 997;sum c +a-b;", "quaternion a -59 -58;sum b -a;", "cyclic a 31 2;quaternion b 2 7;sum c +a+b;",
+            "quaternion a -1 -1;sum b +a+a+a+a;sum c -b-a-b-a;sum d +c+b+a;sum e -a;sum f -e-e-e-e;sum g +f+a+f+e;"};
         for (String first : texts) {
             for (String second : texts) {
                 MiddleAlgebras x = Check.of(first);
+                Check.text(x, first);
                 Check.text(x, second);
                 check.same("<" + second + "> behind <" + first + ">", toldPlaces(x), toldPlaces(Check.of(second)));
             }

@@ -311,6 +311,23 @@ public final class TapeBoundsTest {
             due("quaternion " + less + " 2 3;sum s -" + less + ";", 2);
         }
         due("quaternion suma 2 3;quaternion cyclics 2 3;quaternion asum 2 3;", 3);
+        wordsNearKeywords("quaternion", " x 2 3;");
+        wordsNearKeywords("cyclic", " x 7 3;");
+        wordsNearKeywords("sum", " x +a;");
+    }
+
+    /** One letter changed, wherever it stands: a NAME then, and no head of a LINE. */
+    private static void wordsNearKeywords(String word, String rest) {
+        due(ONE + word + rest, 2);
+        for (int at = 0; at < word.length(); at++) {
+            for (char letter : new char[] {'a', 'x', 'z'}) {
+                String near = word.substring(0, at) + letter + word.substring(at + 1);
+                if (!near.equals(word)) {
+                    due(ONE + near + rest, Check.fault(ONE.length(), 1));
+                    due("quaternion " + near + " 1 1;sum s +" + near + ";", 2);
+                }
+            }
+        }
     }
 
     // "no two are alike", "2 a NAME given that is there".
